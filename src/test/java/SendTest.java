@@ -1,0 +1,55 @@
+/** Promise 3: a word is taken if there is room in the window and on wire AB. */
+public final class SendTest {
+    public static void main(String[] args) {
+        wordGoesOnTheWire();
+        fullWindow();
+        fullWire();
+        windowMovesWithBase();
+        Check.finish();
+    }
+
+    private static void wordGoesOnTheWire() {
+        int[] words = {0, 1, -1, Integer.MAX_VALUE, Integer.MIN_VALUE, 0x12345678};
+        SelectiveLink link = Links.begun(16, 3, 32);
+        for (int i = 0; i < words.length; i++) {
+            Check.due("send(" + words[i] + ")", link.send(words[i]), true);
+            Links.dueFrame("frame of " + words[i], link, Links.AB, i, Links.bytes(0, i, words[i], 0));
+            Links.dueTold("after send " + i, link, 0, i + 1, 0, i + 1, 0, i + 1, 0, i + 1, 0, i + 1);
+        }
+    }
+
+    private static void fullWindow() {
+        for (int window = 1; window <= 16; window++) {
+            SelectiveLink link = Links.withWords(window, window);
+            long[] before = Links.readings(link);
+            Check.due("send with a full window of " + window, link.send(7), false);
+            Check.dueRow("readings after it", Links.readings(link), before);
+        }
+    }
+
+    private static void fullWire() {
+        SelectiveLink link = Links.begun(16, 3, 2);
+        link.send(1);
+        link.send(2);
+        long[] before = Links.readings(link);
+        Check.due("send with a full wire", link.send(3), false);
+        Check.dueRow("readings after it", Links.readings(link), before);
+        link.lose(Links.AB);
+        Check.due("send with room again", link.send(3), true);
+        Links.dueFrame("its frame", link, Links.AB, 1, Links.bytes(0, 2, 3, 0));
+    }
+
+    private static void windowMovesWithBase() {
+        SelectiveLink link = Links.withWords(2, 2);
+        link.delay(Links.AB);
+        link.comeToB();
+        Check.due("acknowledgement behind a gap", link.comeToA(), 1);
+        Check.due("base has not gone on", link.send(7), false);
+        link.comeToB();
+        Check.due("acknowledgement that closes the gap", link.comeToA(), 1);
+        Check.due("base has gone on", link.send(7), true);
+        Check.due("and once more", link.send(8), true);
+        Check.due("but not thrice", link.send(9), false);
+        Check.due("numbers in a slot again are not acknowledged", link.told(3), 2);
+    }
+}
