@@ -412,9 +412,15 @@ public final class SelectiveLink {
             int held = held();
             for (int k = 0; k < held; k++) {
                 int number = Numbers.plus(base, k);
-                if (growsDue(number) && wire.hasRoom()) {
+                int slot = Numbers.slotOf(number);
+                if (acknowledged[slot]) {
+                    continue;
+                }
+                // Without room on the wire the age goes on, so that the frame is due at once later.
+                ages[slot]++;
+                if (ages[slot] >= timeout && wire.hasRoom()) {
                     wire.put(frameOf(number));
-                    ages[Numbers.slotOf(number)] = 0;
+                    ages[slot] = 0;
                     went++;
                 }
             }
@@ -457,15 +463,6 @@ public final class SelectiveLink {
 
         private long frameOf(int number) {
             return Frame.of(Frame.WORD_KIND, number, words[Numbers.slotOf(number)], 0);
-        }
-
-        private boolean growsDue(int number) {
-            int slot = Numbers.slotOf(number);
-            if (acknowledged[slot]) {
-                return false;
-            }
-            ages[slot]++;
-            return ages[slot] >= timeout;
         }
 
         /** The map has no bit for the acknowledgement's own number, which stands at -1 here. */

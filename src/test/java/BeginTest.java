@@ -63,9 +63,9 @@ public final class BeginTest {
 
     private static void nothingStaysOfTheOldLink() {
         SelectiveLink link = Links.withWords(16, 16);
-        link.tick();
-        link.tick();
-        link.tick();
+        for (int i = 0; i < 5; i++) {
+            link.tick();
+        }
         link.comeToB();
         link.lose(Links.AB);
         link.comeToB();

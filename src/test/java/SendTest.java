@@ -5,6 +5,7 @@ public final class SendTest {
         fullWindow();
         fullWire();
         windowMovesWithBase();
+        manyNumbersBeginAnew();
         Check.finish();
     }
 
@@ -50,6 +51,18 @@ public final class SendTest {
         Check.due("base has gone on", link.send(7), true);
         Check.due("and once more", link.send(8), true);
         Check.due("but not thrice", link.send(9), false);
-        Check.due("numbers in a slot again are not acknowledged", link.told(3), 2);
+    }
+
+    /** Each number begins at age 0 and not acknowledged, whatever became of those before it. */
+    private static void manyNumbersBeginAnew() {
+        SelectiveLink link = Links.begun(2, 2, 32);
+        for (int i = 0; i < 60; i++) {
+            Check.due("send", link.send(i), true);
+            Check.due("it is not acknowledged yet", link.told(3), 1);
+            Check.due("first tick", link.tick(), 0);
+            link.comeToB();
+            Check.due("it is now", link.comeToA(), 1);
+        }
+        Links.dueTold("in the end", link, 60, 60, 60, 0, 0, 0, 0, 60, 0, 60);
     }
 }
