@@ -28,9 +28,8 @@ final class Check {
         }
     }
 
-    /** The call must throw exactly this exception, and leave all that can be read of the link as it was. */
-    static void refused(String what, Class<? extends RuntimeException> want, SelectiveLink link, Runnable call) {
-        long[] before = Links.readings(link);
+    /** The call must throw exactly this exception. */
+    static void thrown(String what, Class<? extends RuntimeException> want, Runnable call) {
         Class<?> got = null;
         try {
             call.run();
@@ -42,6 +41,12 @@ final class Check {
             wrong++;
             System.out.println(what + " threw " + got + ", due is " + want);
         }
+    }
+
+    /** The call must throw exactly this exception, and leave all that can be read of the link as it was. */
+    static void refused(String what, Class<? extends RuntimeException> want, SelectiveLink link, Runnable call) {
+        long[] before = Links.readings(link);
+        thrown(what, want, call);
         dueRow("readings after " + what, Links.readings(link), before);
     }
 

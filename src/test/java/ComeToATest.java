@@ -9,7 +9,12 @@ public final class ComeToATest {
         numbersThatAreGood();
         mapBeyondNext();
         aWordDoesNotMatter();
-        thrownAway();
+        wrongCheckSum();
+        wrongKind();
+        everyNumber();
+        everyNumberWithNothingOpen();
+        everyBitOfTheMap();
+        agesGoOnWhateverComes();
         Check.finish();
     }
 
@@ -119,15 +124,20 @@ public final class ComeToATest {
         Check.due("an acknowledgement with a word", link.comeToA(), 1);
     }
 
-    private static void thrownAway() {
+    private static void wrongCheckSum() {
         for (int bit = 0; bit < 96; bit++) {
             SelectiveLink link = withAcknowledgement(4, 2);
             link.change(Links.BA, bit);
             Check.due("bit " + bit + " turned", link.comeToA(), -3);
             Links.dueTold("after bit " + bit, link, 0, 2, 1, 2, 0, 1, 0, 2, 0, 2);
         }
-        int[] kinds = {0, 2, 129, 255};
-        for (int kind : kinds) {
+    }
+
+    private static void wrongKind() {
+        for (int kind = 0; kind < 256; kind++) {
+            if (kind == 1) {
+                continue;
+            }
             SelectiveLink link = withAcknowledgement(4, 2);
             Links.forge(link, Links.BA, Links.bytes(kind, 1, 0, 0));
             Check.due("kind " + kind, link.comeToA(), -3);
@@ -136,5 +146,104 @@ public final class ComeToATest {
         SelectiveLink link = withAcknowledgement(4, 2);
         Links.forge(link, Links.BA, Links.bytes(0, 77, 0, 0));
         Check.due("a wrong kind goes before a number that isn't good", link.comeToA(), -3);
+    }
+
+    /** Good are base, next and those between; the numbers before base go round to the far end. */
+    private static void everyNumber() {
+        int[] bases = {0, 1, 5};
+        int[] counts = {1, 2, 15, 16};
+        for (int base : bases) {
+            for (int count : counts) {
+                for (int number = 0; number < 256; number++) {
+                    SelectiveLink link = withOpen(base, count);
+                    int ahead = number - base & 0xFF;
+                    boolean good = ahead <= count;
+                    String what = "number " + number + ", base " + base + ", next " + (base + count);
+                    Links.forge(link, Links.BA, Links.bytes(1, number, 0, 0));
+                    Check.due(what, link.comeToA(), good ? ahead : -2);
+                    Check.due(what + ", base", link.told(0), good ? number : base);
+                    Check.due(what + ", not acknowledged", link.told(3), good ? count - ahead : count);
+                    Check.due(what + ", acknowledgements", link.told(6), 0);
+                }
+            }
+        }
+    }
+
+    /** A link of window 16 with so many numbers open from base on, and one acknowledgement on BA. */
+    private static SelectiveLink withOpen(int base, int count) {
+        SelectiveLink link = Links.begun(16, 3, 32);
+        for (int i = 0; i < base; i++) {
+            link.send(i);
+            link.comeToB();
+            link.comeToA();
+        }
+        for (int i = 0; i < count; i++) {
+            link.send(base + i);
+        }
+        link.comeToB();
+        return link;
+    }
+
+    private static void everyNumberWithNothingOpen() {
+        for (int number = 0; number < 256; number++) {
+            SelectiveLink link = withAcknowledgement(16, 1);
+            link.twice(Links.BA);
+            link.comeToA();
+            Links.forge(link, Links.BA, Links.bytes(1, number, 0, 0xFFFF));
+            Check.due("number " + number + ", base and next 1", link.comeToA(), number == 1 ? 0 : -2);
+            Links.dueTold("after number " + number, link, 1, 1, 1, 0, 0, 0, 0, 1, 0, 1);
+        }
+    }
+
+    /** Bit k tells of number + 1 + k, if that is before next; bit 15 never is. */
+    private static void everyBitOfTheMap() {
+        int[] counts = {1, 2, 5, 15, 16};
+        for (int next : counts) {
+            for (int number = 0; number <= next; number++) {
+                for (int k = 0; k < 16; k++) {
+                    SelectiveLink link = withAcknowledgement(16, next);
+                    Links.forge(link, Links.BA, Links.bytes(1, number, 0, 1 << k));
+                    boolean told = number + 1 + k < next;
+                    String what = "number " + number + ", bit " + k + ", next " + next;
+                    Check.due(what, link.comeToA(), told ? number + 1 : number);
+                    Check.due(what + ", base", link.told(0), number);
+                    Check.due(what + ", not acknowledged", link.told(3), next - number - (told ? 1 : 0));
+                    for (int i = 0; i < next; i++) {
+                        link.lose(Links.AB);
+                    }
+                    dueGoAgain(what, link, number, next, told ? number + 1 + k : -1);
+                }
+            }
+        }
+    }
+
+    /** With AB empty, three ticks bring the numbers that are open, from base on, but for one. */
+    private static void dueGoAgain(String what, SelectiveLink link, int base, int next, int without) {
+        link.tick();
+        link.tick();
+        link.tick();
+        int at = 0;
+        for (int number = base; number < next; number++) {
+            if (number != without && at < link.told(5)) {
+                Check.due(what + ", goes again", link.frame(Links.AB, at, 0) >>> 48, number);
+                at++;
+            }
+        }
+        Check.due(what + ", how many go again", link.told(5), at);
+    }
+
+    private static void agesGoOnWhateverComes() {
+        SelectiveLink link = withAcknowledgement(4, 2);
+        link.twice(Links.BA);
+        link.twice(Links.BA);
+        Check.due("tick 1", link.tick(), 0);
+        Links.forge(link, Links.BA, Links.bytes(1, 9, 0, 0));
+        Check.due("a number that isn't good", link.comeToA(), -2);
+        link.change(Links.BA, 0);
+        Check.due("thrown away", link.comeToA(), -3);
+        Check.due("tick 2", link.tick(), 0);
+        Links.forge(link, Links.BA, Links.bytes(1, 0, 0, 0));
+        Check.due("nothing new", link.comeToA(), 0);
+        Check.due("tick 3", link.tick(), 2);
     }
 }

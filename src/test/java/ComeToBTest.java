@@ -7,9 +7,14 @@ public final class ComeToBTest {
         oldWords();
         edgesOfTheWindow();
         numbersGoRound();
-        thrownAway();
+        wrongCheckSum();
+        wrongKind();
         aMapDoesNotMatter();
+        everyNumber();
+        thrownAwayBehindAGap();
         fullWireBack();
+        fullWireBackForOldWords();
+        everyRoomBack();
         Check.finish();
     }
 
@@ -95,7 +100,7 @@ public final class ComeToBTest {
         }
     }
 
-    private static void thrownAway() {
+    private static void wrongCheckSum() {
         for (int bit = 0; bit < 96; bit++) {
             SelectiveLink link = Links.withWords(4, 2);
             link.change(Links.AB, bit);
@@ -103,8 +108,10 @@ public final class ComeToBTest {
             Links.dueTold("after bit " + bit, link, 0, 2, 0, 2, 0, 1, 0, 2, 0, 2);
             Links.dueNumbers("what stays", link, Links.AB, 1);
         }
-        int[] kinds = {1, 2, 128, 255};
-        for (int kind : kinds) {
+    }
+
+    private static void wrongKind() {
+        for (int kind = 1; kind < 256; kind++) {
             SelectiveLink link = Links.withWords(4, 1);
             Links.forge(link, Links.AB, Links.bytes(kind, 0, 100, 0));
             Check.due("kind " + kind, link.comeToB(), 2);
@@ -128,5 +135,83 @@ public final class ComeToBTest {
             Check.due("delivered all the same", link.delivered(), i + 1);
         }
         Links.dueNumbers("the first acknowledgement alone", link, Links.BA, 1);
+    }
+
+    /** New are those of the window alone; the numbers before first go round to the far end. */
+    private static void everyNumber() {
+        int[] windows = {1, 2, 4, 15, 16};
+        for (int window : windows) {
+            for (int number = 0; number < 256; number++) {
+                for (int first = 0; first < 4; first++) {
+                    SelectiveLink link = withFirst(window, first);
+                    Links.forge(link, Links.AB, Links.bytes(0, number, 5, 0));
+                    boolean isNew = (number - first & 0xFF) < window;
+                    String what = "number " + number + ", first " + first + ", window " + window;
+                    Check.due(what, link.comeToB(), isNew ? 0 : 1);
+                    Check.due(what + ", delivered", link.delivered(), number == first ? first + 1 : first);
+                    Check.due(what + ", behind a gap", link.told(4), isNew && number != first ? 1 : 0);
+                    Check.due(what + ", acknowledgements", link.told(6), 1);
+                }
+            }
+        }
+    }
+
+    /** A link of this window whose first is this number, with one frame on AB and none on BA. */
+    private static SelectiveLink withFirst(int window, int first) {
+        SelectiveLink link = Links.withWords(window, 1);
+        for (int i = 0; i < first; i++) {
+            link.comeToB();
+            link.comeToA();
+            link.send(7);
+        }
+        return link;
+    }
+
+    private static void thrownAwayBehindAGap() {
+        SelectiveLink link = Links.withWords(4, 3);
+        link.delay(Links.AB);
+        link.comeToB();
+        link.change(Links.AB, 20);
+        Check.due("a changed frame", link.comeToB(), 2);
+        Links.dueTold("it has left the wire, nothing else", link, 0, 3, 0, 3, 1, 1, 1, 3, 0, 3);
+        Check.due("number 0", link.comeToB(), 0);
+        Check.due("number 2 did not come", link.delivered(), 2);
+    }
+
+    private static void fullWireBackForOldWords() {
+        SelectiveLink link = Links.begun(4, 3, 2);
+        link.send(1);
+        link.twice(Links.AB);
+        link.comeToB();
+        link.comeToB();
+        link.send(2);
+        link.twice(Links.AB);
+        long[] full = {link.frame(Links.BA, 0, 0), link.frame(Links.BA, 1, 0)};
+        Check.due("a new word with BA full", link.comeToB(), 0);
+        Check.due("an old word with BA full", link.comeToB(), 1);
+        Links.dueTold("both have left AB, BA is as it was", link, 0, 2, 2, 2, 0, 0, 2, 2, 0, 2);
+        long[] now = {link.frame(Links.BA, 0, 0), link.frame(Links.BA, 1, 0)};
+        Check.dueRow("the acknowledgements on BA", now, full);
+    }
+
+    private static void everyRoomBack() {
+        for (int room = 1; room <= 32; room++) {
+            SelectiveLink link = Links.begun(1, 3, room);
+            link.send(1);
+            for (int i = 1; i < room; i++) {
+                link.twice(Links.AB);
+            }
+            for (int i = 1; i < room; i++) {
+                link.comeToB();
+            }
+            Check.due("acknowledgements before the last place of " + room, link.told(6), room - 1);
+            link.twice(Links.AB);
+            link.comeToB();
+            Check.due("acknowledgements on a full wire of " + room, link.told(6), room);
+            int left = link.told(5);
+            link.comeToB();
+            Check.due("one more", link.told(6), room);
+            Check.due("frames on AB then", link.told(5), left == 0 ? 0 : left - 1);
+        }
     }
 }

@@ -1,11 +1,16 @@
 /** Promise 13: the bytes of the frames on the wires. */
 public final class FrameTest {
+    /** Neither a wire nor a half. */
+    private static final int[] NEITHER = {-1, 2, 3, Integer.MAX_VALUE, Integer.MIN_VALUE};
+
     public static void main(String[] args) {
         knownFrames();
         secondHalfHasNoSign();
         fromTheOldestOn();
+        lastOfAFullWire();
         noSuchFrame();
-        noSuchWireOrHalf();
+        noSuchWire();
+        noSuchHalf();
         Check.finish();
     }
 
@@ -49,6 +54,18 @@ public final class FrameTest {
         }
     }
 
+    private static void lastOfAFullWire() {
+        SelectiveLink link = Links.withWords(16, 16);
+        for (int i = 16; i < 32; i++) {
+            link.twice(Links.AB);
+        }
+        Links.dueFrame("frame 0 of 32", link, Links.AB, 0, Links.bytes(0, 0, 100, 0));
+        Links.dueFrame("frame 31 of 32", link, Links.AB, 31, Links.bytes(0, 15, 115, 0));
+        Check.thrown("frame 32 of 32", IndexOutOfBoundsException.class, () -> link.frame(0, 32, 0));
+        Check.thrown("frame 32 of 32, half 1", IndexOutOfBoundsException.class, () -> link.frame(0, 32, 1));
+        Check.thrown("frame 0 of none", IndexOutOfBoundsException.class, () -> link.frame(1, 0, 0));
+    }
+
     private static void noSuchFrame() {
         Class<IndexOutOfBoundsException> out = IndexOutOfBoundsException.class;
         int[] wrong = {-1, 3, 4, 8, 32, Integer.MAX_VALUE, Integer.MIN_VALUE};
@@ -68,16 +85,25 @@ public final class FrameTest {
         }
     }
 
-    private static void noSuchWireOrHalf() {
+    private static void noSuchWire() {
         Class<IllegalArgumentException> illegal = IllegalArgumentException.class;
-        int[] wrong = {-1, 2, Integer.MAX_VALUE, Integer.MIN_VALUE};
-        for (int value : wrong) {
+        for (int wire : NEITHER) {
             SelectiveLink link = Links.withWords(4, 3);
             link.comeToB();
-            Check.refused("frame(" + value + ", 0, 0)", illegal, link, () -> link.frame(value, 0, 0));
-            Check.refused("frame(0, 0, " + value + ")", illegal, link, () -> link.frame(0, 0, value));
-            Check.refused("frame(" + value + ", 9, 0)", illegal, link, () -> link.frame(value, 9, 0));
-            Check.refused("frame(1, -1, " + value + ")", illegal, link, () -> link.frame(1, -1, value));
+            Check.refused("frame(" + wire + ", 0, 0)", illegal, link, () -> link.frame(wire, 0, 0));
+            Check.refused("frame(" + wire + ", 0, 1)", illegal, link, () -> link.frame(wire, 0, 1));
+            Check.refused("frame(" + wire + ", 9, 0)", illegal, link, () -> link.frame(wire, 9, 0));
+        }
+    }
+
+    private static void noSuchHalf() {
+        Class<IllegalArgumentException> illegal = IllegalArgumentException.class;
+        for (int half : NEITHER) {
+            SelectiveLink link = Links.withWords(4, 3);
+            link.comeToB();
+            Check.refused("frame(0, 0, " + half + ")", illegal, link, () -> link.frame(0, 0, half));
+            Check.refused("frame(1, 0, " + half + ")", illegal, link, () -> link.frame(1, 0, half));
+            Check.refused("frame(1, -1, " + half + ")", illegal, link, () -> link.frame(1, -1, half));
         }
     }
 }

@@ -4,6 +4,8 @@ public final class SendTest {
         wordGoesOnTheWire();
         fullWindow();
         fullWire();
+        bothFull();
+        roomForOneMore();
         windowMovesWithBase();
         manyNumbersBeginAnew();
         Check.finish();
@@ -38,6 +40,32 @@ public final class SendTest {
         link.lose(Links.AB);
         Check.due("send with room again", link.send(3), true);
         Links.dueFrame("its frame", link, Links.AB, 1, Links.bytes(0, 2, 3, 0));
+    }
+
+    private static void bothFull() {
+        SelectiveLink link = Links.begun(3, 3, 3);
+        for (int i = 0; i < 3; i++) {
+            Check.due("send", link.send(i), true);
+        }
+        long[] before = Links.readings(link);
+        Check.due("send with window and wire full", link.send(3), false);
+        Check.dueRow("readings after it", Links.readings(link), before);
+        link.lose(Links.AB);
+        Check.due("send with the window alone full", link.send(3), false);
+    }
+
+    /** One place left in the window, and one on the wire, are enough. */
+    private static void roomForOneMore() {
+        for (int room = 1; room <= 32; room++) {
+            SelectiveLink link = Links.begun(16, 3, room);
+            Check.due("send on a wire of " + room, link.send(1), true);
+            for (int i = 2; i < room; i++) {
+                link.twice(Links.AB);
+            }
+            Check.due("send on a wire of " + room + " with room for one", link.send(2), room > 1);
+            Check.due("send on a full wire of " + room, link.send(3), false);
+            Check.due("frames on a full wire", link.told(5), room);
+        }
     }
 
     private static void windowMovesWithBase() {

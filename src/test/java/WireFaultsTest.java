@@ -6,8 +6,12 @@ public final class WireFaultsTest {
         for (int wire = 0; wire < 2; wire++) {
             lose(wire);
             change(wire);
+            changeAtBothEnds(wire);
             twice(wire);
             delay(wire);
+            emptyWire(wire);
+            wireOfOne(wire);
+            lastFreePlace(wire);
         }
         noSuchWire();
         noSuchBit();
@@ -73,6 +77,20 @@ public final class WireFaultsTest {
         dueUnchanged("change on an empty wire", empty, new long[11]);
     }
 
+    private static void changeAtBothEnds(int wire) {
+        SelectiveLink link = withFrames(wire, 1);
+        long head = link.frame(wire, 0, 0);
+        long tail = link.frame(wire, 0, 1);
+        Check.due("bit 0", link.change(wire, 0), true);
+        Check.due("the lowest of the last byte", link.frame(wire, 0, 1), tail ^ 1);
+        Check.due("bit 31", link.change(wire, 31), true);
+        Check.due("the highest of the last four bytes", link.frame(wire, 0, 1), tail ^ 0x80000001L);
+        Check.due("bit 32", link.change(wire, 32), true);
+        Check.due("the lowest of the first eight bytes", link.frame(wire, 0, 0), head ^ 1);
+        Check.due("bit 95", link.change(wire, 95), true);
+        Check.due("the highest of the first byte", link.frame(wire, 0, 0), head ^ 0x8000000000000001L);
+    }
+
     private static void twice(int wire) {
         SelectiveLink link = withFrames(wire, 3);
         link.change(wire, 40);
@@ -86,7 +104,7 @@ public final class WireFaultsTest {
         }
         link.change(wire, 0);
         Check.due("the second twin is its own frame", link.frame(wire, 1, 1), tail);
-        while (link.told(5 + wire) < 32) {
+        for (int frames = 4; frames < 32; frames++) {
             Check.due("twice with room", link.twice(wire), true);
         }
         long[] before = Links.readings(link);
@@ -118,12 +136,69 @@ public final class WireFaultsTest {
         Check.due("delay of none", link.delay(wire), false);
         dueUnchanged("delay of none", link, before);
         SelectiveLink full = withFrames(wire, 3);
-        while (full.told(5 + wire) < 32) {
+        for (int frames = 3; frames < 32; frames++) {
             full.twice(wire);
         }
         Check.due("delay on a full wire", full.delay(wire), true);
         Check.due("frames on the full wire", full.told(5 + wire), 32);
         Check.due("the last one", full.frame(wire, 31, 0) >>> 48 & 0xFF, 1);
+    }
+
+    private static void emptyWire(int wire) {
+        SelectiveLink fresh = new SelectiveLink();
+        SelectiveLink used = withFrames(1 - wire, 3);
+        for (int i = used.told(5 + wire); i > 0; i--) {
+            used.lose(wire);
+        }
+        SelectiveLink[] both = {fresh, used};
+        for (SelectiveLink link : both) {
+            long[] before = Links.readings(link);
+            Check.due("lose of none", link.lose(wire), false);
+            dueUnchanged("lose of none", link, before);
+            for (int bit = 0; bit < 96; bit += 19) {
+                Check.due("change of none, bit " + bit, link.change(wire, bit), false);
+                dueUnchanged("change of none, bit " + bit, link, before);
+            }
+            Check.due("twice of none", link.twice(wire), false);
+            dueUnchanged("twice of none", link, before);
+            Check.due("delay of none", link.delay(wire), false);
+            dueUnchanged("delay of none", link, before);
+        }
+    }
+
+    /** A wire with room for one frame is empty or full, never between. */
+    private static void wireOfOne(int wire) {
+        SelectiveLink link = Links.begun(4, 3, 1);
+        link.send(1);
+        if (wire == Links.BA) {
+            link.comeToB();
+        }
+        long[] before = Links.readings(link);
+        Check.due("twice of one, without room", link.twice(wire), false);
+        dueUnchanged("twice of one, without room", link, before);
+        Check.due("delay of one, without room", link.delay(wire), false);
+        dueUnchanged("delay of one, without room", link, before);
+        Check.due("change of one", link.change(wire, 95), true);
+        Check.due("lose of one", link.lose(wire), true);
+        Check.due("lose of none", link.lose(wire), false);
+    }
+
+    private static void lastFreePlace(int wire) {
+        for (int room = 2; room <= 32; room++) {
+            SelectiveLink link = Links.begun(4, 3, room);
+            link.send(1);
+            if (wire == Links.BA) {
+                link.comeToB();
+            }
+            for (int frames = 1; frames < room; frames++) {
+                Check.due("twice with room, wire of " + room, link.twice(wire), true);
+                Check.due("frames, wire of " + room, link.told(5 + wire), frames + 1);
+            }
+            Check.due("twice without room, wire of " + room, link.twice(wire), false);
+            Check.due("frames, wire of " + room, link.told(5 + wire), room);
+            Check.due("delay without room, wire of " + room, link.delay(wire), true);
+            Check.due("frames, wire of " + room, link.told(5 + wire), room);
+        }
     }
 
     private static void noSuchWire() {

@@ -1,8 +1,12 @@
 /** Promises 11 and 12: how many words were delivered, and which. */
 public final class WordsTest {
+    private static final Class<IndexOutOfBoundsException> OUT = IndexOutOfBoundsException.class;
+
     public static void main(String[] args) {
         countsInOrder();
-        wordsThatAreNotThere();
+        noneDelivered();
+        belowTheFirst();
+        aboveTheLast();
         manyWords();
         Check.finish();
     }
@@ -26,22 +30,43 @@ public final class WordsTest {
         }
     }
 
-    private static void wordsThatAreNotThere() {
-        Class<IndexOutOfBoundsException> out = IndexOutOfBoundsException.class;
-        int[] never = {-1, -256, 256, 255, Integer.MAX_VALUE, Integer.MIN_VALUE};
+    private static void noneDelivered() {
         SelectiveLink empty = new SelectiveLink();
-        Check.refused("word(0) of none", out, empty, () -> empty.word(0));
+        Check.refused("word(0) of none", OUT, empty, () -> empty.word(0));
+        Check.refused("word(-1) of none", OUT, empty, () -> empty.word(-1));
+        SelectiveLink link = Links.withWords(4, 4);
+        link.lose(Links.AB);
+        link.comeToB();
+        Check.refused("word(0) in the gap", OUT, link, () -> link.word(0));
+        Check.refused("word(1) behind the gap", OUT, link, () -> link.word(1));
+    }
+
+    private static void belowTheFirst() {
+        SelectiveLink link = withTwoAndAGap();
+        int[] wrong = {-1, -2, -254, -255, -256, -257, Integer.MIN_VALUE};
+        for (int i : wrong) {
+            Check.refused("word(" + i + ")", OUT, link, () -> link.word(i));
+        }
+        Check.due("word(0)", link.word(0), 100);
+    }
+
+    private static void aboveTheLast() {
+        SelectiveLink link = withTwoAndAGap();
+        int[] wrong = {2, 3, 4, 255, 256, 257, 258, Integer.MAX_VALUE};
+        for (int i : wrong) {
+            Check.refused("word(" + i + ")", OUT, link, () -> link.word(i));
+        }
+        Check.due("word(1)", link.word(1), 101);
+    }
+
+    /** Words 0 and 1 are delivered, 2 is lost, 3 waits behind the gap. */
+    private static SelectiveLink withTwoAndAGap() {
         SelectiveLink link = Links.withWords(4, 4);
         link.comeToB();
         link.comeToB();
         link.lose(Links.AB);
         link.comeToB();
-        for (int i : never) {
-            Check.refused("word(" + i + ")", out, link, () -> link.word(i));
-        }
-        Check.refused("word(2) in the gap", out, link, () -> link.word(2));
-        Check.refused("word(3) behind the gap", out, link, () -> link.word(3));
-        Check.due("word(1)", link.word(1), 101);
+        return link;
     }
 
     /** As many as go into 512 calls and a reading of each; each word has all four bytes in use. */
